@@ -22,10 +22,10 @@ public final class LayeredClaims {
     private static final int COVER = 0;
     private static final int LAYER = 1;
 
-    private final Book book = new Book();
+    private final Year year = new Year();
+    private final Book book = year.book;
     private final Book savedBook = new Book();
-    private final Year year = new Year(book);
-    private final History history = new History(book);
+    private final History history = new History();
     private final Text text = new Text();
     private final Trays trays = new Trays();
     private boolean hasSaved;
@@ -35,47 +35,47 @@ public final class LayeredClaims {
     }
 
     public int addCover(int eventLimit, int yearLimit, int premium, int group) {
-        history.mark();
+        history.mark(book);
         return changed(book.insertCover(eventLimit, yearLimit, premium, group));
     }
 
     public int addLayer(int attachment, int limit, int premium, int reinstatements) {
-        history.mark();
+        history.mark(book);
         return changed(book.insertLayer(attachment, limit, premium, reinstatements));
     }
 
     public int addEvent(int day) {
-        history.mark();
+        history.mark(book);
         return changed(book.insertEvent(day));
     }
 
     public int addClaim(int event, int cover, int amount) {
-        history.mark();
+        history.mark(book);
         return changed(book.insertClaim(event, cover, amount));
     }
 
     public int removeClaim(int claim) {
-        history.mark();
+        history.mark(book);
         return changed(book.dropClaim(claim));
     }
 
     public int setDay(int event, int day) {
-        history.mark();
+        history.mark(book);
         return changed(book.changeDay(event, day));
     }
 
     public int setDeductible(int group, int deductible) {
-        history.mark();
+        history.mark(book);
         return changed(book.changeDeductible(group, deductible));
     }
 
     public int setIndex(int rate) {
-        history.mark();
+        history.mark(book);
         return changed(book.changeRate(rate));
     }
 
     public int setRecovery(int event, int amount) {
-        history.mark();
+        history.mark(book);
         return changed(book.changeRecovery(event, amount));
     }
 
@@ -90,10 +90,10 @@ public final class LayeredClaims {
             latestFault = text.at;
             return BAD_VALUE;
         }
-        history.mark();
+        history.mark(book);
         for (int i = 0; i < text.entries; i++) {
             if (makeEntry(i) < 0) {
-                history.returnToMark();
+                history.returnToMark(book);
                 latestFault = text.starts[i];
                 return STATE;
             }
@@ -107,7 +107,7 @@ public final class LayeredClaims {
     }
 
     public int undo() {
-        return history.goBack();
+        return history.goBack(book);
     }
 
     public int count(int what) {
@@ -396,11 +396,11 @@ public final class LayeredClaims {
         int first = text.numbers[entry][0];
         int second = text.numbers[entry][1];
         int third = text.numbers[entry][2];
-        switch (text.kinds[entry]) {
-            case 'e': return book.insertEvent(first);
-            case 'c': return book.insertClaim(first, second, third);
-            default: return book.changeRecovery(first, second);
+        char kind = text.kinds[entry];
+        if (kind == 'e') {
+            return book.insertEvent(first);
         }
+        return kind == 'c' ? book.insertClaim(first, second, third) : book.changeRecovery(first, second);
     }
 
     private int answerOf(int[][] table, int event, int cover) {
@@ -418,6 +418,14 @@ public final class LayeredClaims {
     /** Rounded down; 0 by 0, as where nothing is shared out among none. */
     private static int quotient(long dividend, long divisor) {
         return divisor > 0 ? (int) (dividend / divisor) : 0;
+    }
+
+    private static int sumOf(int[] row, int length) {
+        int sum = 0;
+        for (int i = 0; i < length; i++) {
+            sum += row[i];
+        }
+        return sum;
     }
 
     /**
@@ -657,17 +665,9 @@ public final class LayeredClaims {
         }
     }
 
-    private static int sumOf(int[] row, int length) {
-        int sum = 0;
-        for (int i = 0; i < length; i++) {
-            sum += row[i];
-        }
-        return sum;
-    }
-
     /** What the data of a book come to: reckoned anew for each question, in rows that are made once. */
     private static final class Year {
-        final Book book;
+        final Book book = new Book();
         final int[] order = new int[MOST_EVENTS];
         final int[] positions = new int[MOST_EVENTS];
         final int[] losses = new int[MOST_CLAIMS];
@@ -683,10 +683,6 @@ public final class LayeredClaims {
         final int[] retained = new int[MOST_EVENTS];
         final int[] claimPayments = new int[MOST_CLAIMS];
         final Sharing sharing = new Sharing();
-
-        Year(Book book) {
-            this.book = book;
-        }
 
         /** All but the payments for the claims. */
         void reckon() {
@@ -957,20 +953,18 @@ public final class LayeredClaims {
     /** The latest states of a book before its changes, in a ring with one row more for the mark. */
     private static final class History {
         private static final int ROWS = MOST_UNDOS + 1;
-        private final Book book;
         private final Book[] ring = new Book[ROWS];
         private int markAt;
         private int kept;
 
-        History(Book book) {
-            this.book = book;
+        History() {
             for (int i = 0; i < ROWS; i++) {
                 ring[i] = new Book();
             }
         }
 
         /** Notes the present state, which only keepMark makes a step of the history. */
-        void mark() {
+        void mark(Book book) {
             ring[markAt].copyFrom(book);
         }
 
@@ -979,17 +973,17 @@ public final class LayeredClaims {
             kept = Math.min(kept + 1, MOST_UNDOS);
         }
 
-        void returnToMark() {
+        void returnToMark(Book book) {
             book.copyFrom(ring[markAt]);
         }
 
-        int goBack() {
+        int goBack(Book book) {
             if (kept == 0) {
                 return NONE;
             }
             kept--;
             markAt = (markAt + ROWS - 1) % ROWS;
-            returnToMark();
+            returnToMark(book);
             return kept;
         }
 
@@ -1038,12 +1032,12 @@ public final class LayeredClaims {
             length = 0;
         }
 
-        /** Takes the text apart; if it has a fault, answers false and leaves its position in at. */
+        /** Takes the text apart. If it has a fault, answers false, and its position stands in at. */
         boolean scan() {
             at = 0;
-            entries = 0;
-            while (entries < MOST_ENTRIES && scanEntry()) {
+            for (int i = 0; i < MOST_ENTRIES && scanEntry(i); i++) {
                 if (at == length) {
+                    entries = i + 1;
                     return true;
                 }
                 if (!skipSign(';')) {
@@ -1053,23 +1047,23 @@ public final class LayeredClaims {
             return false;
         }
 
-        private boolean scanEntry() {
-            starts[entries] = at;
-            boolean isGood;
+        private boolean scanEntry(int entry) {
+            int[] row = numbers[entry];
+            starts[entry] = at;
             if (skipSign('e')) {
-                kinds[entries] = 'e';
-                isGood = scanNumber(0);
-            } else if (skipSign('c')) {
-                kinds[entries] = 'c';
-                isGood = scanNumber(0) && skipSign(',') && scanNumber(1) && skipSign(',') && scanNumber(2);
-            } else if (skipSign('r')) {
-                kinds[entries] = 'r';
-                isGood = scanNumber(0) && skipSign('=') && scanNumber(1);
-            } else {
-                isGood = false;
+                kinds[entry] = 'e';
+                return scanNumber(row, 0);
             }
-            entries++;
-            return isGood;
+            if (skipSign('c')) {
+                kinds[entry] = 'c';
+                return scanNumber(row, 0) && skipSign(',') && scanNumber(row, 1)
+                        && skipSign(',') && scanNumber(row, 2);
+            }
+            if (skipSign('r')) {
+                kinds[entry] = 'r';
+                return scanNumber(row, 0) && skipSign('=') && scanNumber(row, 1);
+            }
+            return false;
         }
 
         private boolean skipSign(char sign) {
@@ -1080,7 +1074,7 @@ public final class LayeredClaims {
             return true;
         }
 
-        private boolean scanNumber(int column) {
+        private boolean scanNumber(int[] row, int column) {
             int number = 0;
             int digits = 0;
             while (digits < MOST_DIGITS && at < length && isWithin(signs[at], '0', '9')) {
@@ -1088,7 +1082,7 @@ public final class LayeredClaims {
                 digits++;
                 at++;
             }
-            numbers[entries][column] = number;
+            row[column] = number;
             return digits > 0;
         }
     }
