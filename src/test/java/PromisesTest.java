@@ -103,6 +103,25 @@ public final class PromisesTest {
         return x;
     }
 
+    /** All data of a desk and what they come to. */
+    private static String fingerprint(LayeredClaims x) {
+        StringBuilder all = new StringBuilder();
+        int[] counts = {x.count(0), x.count(1), x.count(2), x.count(3), x.count(5)};
+        all.append(java.util.Arrays.toString(counts));
+        for (int what = 0; what < 9; what++) {
+            all.append(' ').append(x.account(what));
+            for (int i = 0; i < 24; i++) {
+                all.append(' ').append(x.cover(i, what)).append(' ').append(x.layer(i, what)).append(' ')
+                    .append(x.event(i, what)).append(' ').append(x.claim(i, what)).append(' ').append(x.deductible(i));
+            }
+        }
+        return all.toString();
+    }
+
+    private static void dueSame(String call, LayeredClaims x, String want) {
+        due(call + " brings all back", fingerprint(x).equals(want) ? 1 : 0, 1);
+    }
+
     private static void constants() {
         due("NO_SUCH_ELEMENT", LayeredClaims.NO_SUCH_ELEMENT, -1);
         due("BAD_VALUE", LayeredClaims.BAD_VALUE, -2);
@@ -245,6 +264,10 @@ public final class PromisesTest {
         due("amount 4", x.claim(4, 2), 600);
         due("claim 5", x.claim(5, 0), -1);
         due("removeClaim last", x.removeClaim(4), 4);
+        due("removeClaim 1", x.removeClaim(1), 3);
+        due("event 1", x.claim(1, 0), 1);
+        due("cover 1", x.claim(1, 1), 0);
+        x.undo();
         for (int i = 3; i >= 0; i--) {
             due("removeClaim first", x.removeClaim(0), i);
         }
@@ -393,6 +416,19 @@ public final class PromisesTest {
         due("recovery is back", x.event(1, 1), 9);
         due("undo of one read", x.undo(), 4);
         due("events", x.count(2), 2);
+        due("all parts", readText(x, "c1,0,12345"), 1);
+        due("event", x.claim(2, 0), 1);
+        due("cover", x.claim(2, 1), 0);
+        due("amount", x.claim(2, 2), 12345);
+        due("full text", readText(x, "r000000=000001;r000000=000002;r000000=000003;r00000=00000004"), -2);
+        due("fault at the seventh digit", x.faultPosition(), 58);
+        due("full text", readText(x, "r000000=000001;r000000=000002;r000000=000003;r0000001=00000"), -2);
+        due("fault at the seventh digit", x.faultPosition(), 52);
+        // The 61st character is not appended, so that the last amount is 0.
+        due("full text", readText(x, "c000000,000000,000001;c000000,000000,000002;c000000,000000,07"), -5);
+        due("refused entry", x.faultPosition(), 44);
+        due("full text", readText(x, "c000000,000000,000001;c000000,000000,000002;c000000,000000,"), -2);
+        due("too early", x.faultPosition(), 59);
         // 20 entries in 60 characters.
         LayeredClaims y = new LayeredClaims();
         y.addEvent(0);
@@ -453,6 +489,7 @@ public final class PromisesTest {
         due("undo", x.undo(), 0);
         due("covers", x.count(0), 0);
         eachChangeIsUndone();
+        eachUndoBringsAllBack();
     }
 
     private static void eachChangeIsUndone() {
@@ -498,6 +535,40 @@ public final class PromisesTest {
         x.save();
         due("no changes", x.undo(), -4);
         due("the tray stays", x.filed(2, 0), 0);
+    }
+
+    private static void eachUndoBringsAllBack() {
+        int[][] changes = {{1, 2, 3, 1}, {9000, 8, 7, 3}, {200}, {1, 2, 77}, {2}, {1, 300}, {2, 9}, {66}, {0, 55}};
+        for (int late = 0; late < 8; late++) {
+            for (int i = 0; i < 11; i++) {
+                LayeredClaims x = desk();
+                x.file(2, 2, 0, 1);
+                for (int j = 0; j < late; j++) {
+                    x.setIndex(j);
+                }
+                String before = fingerprint(x);
+                due("change " + i, Math.min(0, change(x, i, i < 9 ? changes[i] : null)), 0);
+                due("is a change", fingerprint(x).equals(before) ? 1 : 0, 0);
+                due("undo", x.undo(), 5);
+                dueSame("undo of change " + i, x, before);
+            }
+        }
+    }
+
+    private static int change(LayeredClaims x, int kind, int[] a) {
+        switch (kind) {
+            case 0: return x.addCover(a[0], a[1], a[2], a[3]);
+            case 1: return x.addLayer(a[0], a[1], a[2], a[3]);
+            case 2: return x.addEvent(a[0]);
+            case 3: return x.addClaim(a[0], a[1], a[2]);
+            case 4: return x.removeClaim(a[0]);
+            case 5: return x.setDay(a[0], a[1]);
+            case 6: return x.setDeductible(a[0], a[1]);
+            case 7: return x.setIndex(a[0]);
+            case 8: return x.setRecovery(a[0], a[1]);
+            case 9: return readText(x, "e44;c3,1,99;r3=5");
+            default: return x.use(2, 2);
+        }
     }
 
     private static void promise15Count() {
@@ -631,6 +702,7 @@ public final class PromisesTest {
         due("claim what", x.claim(0, -1), -2);
         due("claim what", x.claim(5, 6), -2);
         reasonsInTheirOrder();
+        reasonOfTheLeastDeduction();
         claimsOfEqualRemainders();
     }
 
@@ -666,7 +738,18 @@ public final class PromisesTest {
         y.addClaim(0, 0, 1);
         y.addClaim(0, 0, 9999);
         due("reason 2 beside a paid claim", y.claim(0, 5), 2);
+        due("paid nothing", y.claim(0, 4), 0);
         due("reason 4", y.claim(1, 5), 4);
+    }
+
+    private static void reasonOfTheLeastDeduction() {
+        LayeredClaims x = new LayeredClaims();
+        x.addCover(10, 10, 0, 2);
+        x.setDeductible(2, 1);
+        x.addEvent(0);
+        x.addClaim(0, 0, 2);
+        due("reason 5 by 1", x.claim(0, 5), 5);
+        due("paid 1", x.claim(0, 4), 1);
     }
 
     private static void claimsOfEqualRemainders() {
@@ -827,6 +910,12 @@ public final class PromisesTest {
         due("place", y.place(0), 1);
         due("above an empty layer", y.place(1), 2);
         due("empty", y.borne(1, 0), 0);
+        y.removeClaim(1);
+        y.addClaim(1, 0, 21);
+        due("a part of 1", y.place(1), 2);
+        y.removeClaim(1);
+        y.addClaim(1, 0, 20);
+        due("a part of 0", y.place(1), 0);
     }
 
     private static void promise29Worst() {
@@ -900,6 +989,51 @@ public final class PromisesTest {
             x.removeClaim(0);
         }
         due("isBalanced", x.isBalanced(), 1);
+        aFullDesk();
+    }
+
+    /** Six covers, four layers, eight events and 24 claims: each question finds its last row. */
+    private static void aFullDesk() {
+        LayeredClaims x = new LayeredClaims();
+        for (int i = 0; i < 6; i++) {
+            x.addCover(100, 250, 10, i % 3);
+        }
+        for (int i = 0; i < 4; i++) {
+            x.addLayer(20 * i + 10, 20, 5, 3);
+        }
+        for (int i = 0; i < 8; i++) {
+            x.addEvent(7 - i);
+        }
+        for (int i = 0; i < 24; i++) {
+            x.addClaim(i % 8, 5, 17);
+        }
+        due("isBalanced", x.isBalanced(), 1);
+        due("event that happens last", x.eventAt(7), 0);
+        due("left before it", x.leftBefore(0, 5), 0);
+        due("reason", x.claim(0, 5), 1);
+        due("reason", x.claim(7, 5), 0);
+        due("reason of the last paid", x.claim(3, 5), 3);
+        due("sum of the losses", x.account(0), 24 * 17);
+        due("paid", x.account(1), 250);
+        due("borne", x.layer(3, 4), 0);
+        due("borne", x.layer(1, 4), 80);
+        due("borne", x.borne(7, 2), 1);
+        due("returned", x.returned(7, 4), 0);
+        // Four events pay 51, of which 10 are below the layers; the fifth pays 46, when the first two layers are spent.
+        due("retained", x.account(5), 4 * 10 + 46);
+        due("premiums", x.account(6), 60);
+        due("place", x.place(7), 3);
+        due("worst", x.worst(), 7);
+        due("leastLimit", x.leastLimit(5), 408);
+        x.setDay(7, 364);
+        due("paidIf", x.paidIf(7, 0), 250);
+        due("position", x.event(7, 7), 7);
+        due("addClaim", x.addClaim(0, 0, 1), -3);
+        String before = fingerprint(x);
+        x.save();
+        x.removeClaim(23);
+        x.restore();
+        dueSame("restore", x, before);
     }
 
     private static void promise34PaidIf() {
@@ -982,6 +1116,15 @@ public final class PromisesTest {
         for (int what = 0; what < 4; what++) {
             due("cover", x.cover(3, what), numbers[what]);
         }
+        x.file(0, 1, 0, 0);
+        x.file(0, 3, 0, 1);
+        x.file(1, 0, 1, 0);
+        x.use(0, 1);
+        int[] others = {1000, 1500, 400, 0};
+        for (int what = 0; what < 4; what++) {
+            due("cover of another place", x.cover(4, what), others[what]);
+        }
+        x.undo();
         due("use cover", x.use(0, 0), 4);
         due("use cover", x.use(0, 0), 5);
         due("use cover full", x.use(0, 0), -3);
@@ -1033,6 +1176,49 @@ public final class PromisesTest {
         due("save of nothing", new LayeredClaims().save(), 0);
     }
 
+    private static void restoreOverOtherData() {
+        LayeredClaims x = desk();
+        String before = fingerprint(x);
+        LayeredClaims y = new LayeredClaims();
+        y.save();
+        for (int i = 0; i < 2; i++) {
+            y.addCover(1000 * i + 1000, 7500 * i + 1500, 200 * i + 400, 0);
+        }
+        y.addCover(500, 500, 50, 2);
+        y.addLayer(500, 1000, 300, 1);
+        y.addLayer(1500, 800, 100, 0);
+        y.setDeductible(0, 300);
+        readText(y, "e100;e50;e100;c0,0,700;c0,0,500;c0,1,1500;c1,0,900");
+        readText(y, "c2,0,200;c2,2,600");
+        dueSame("the same by texts", y, before);
+        x.save();
+        y.restore();
+        due("restore of an empty desk", y.count(0) + y.count(1) + y.count(2) + y.count(3), 0);
+        for (int i = 0; i < 6; i++) {
+            x.removeClaim(0);
+        }
+        LayeredClaims z = new LayeredClaims();
+        z.addCover(1, 2, 3, 1);
+        z.addLayer(4, 5, 6, 2);
+        z.addEvent(7);
+        z.addClaim(0, 0, 9);
+        String other = fingerprint(z);
+        z.save();
+        for (int i = 0; i < 4; i++) {
+            z.undo();
+        }
+        due("all is undone", z.count(0) + z.count(1) + z.count(2) + z.count(3), 0);
+        readText(z, "e8;e9");
+        z.addCover(10, 20, 30, 2);
+        z.addLayer(40, 50, 60, 3);
+        z.addCover(11, 21, 31, 0);
+        z.addClaim(1, 1, 90);
+        z.restore();
+        dueSame("restore over other data", z, other);
+        x.restore();
+        dueSame("restore", x, before);
+    }
+
     private static void promise40Restore() {
         promise = 40;
         LayeredClaims x = desk();
@@ -1068,5 +1254,6 @@ public final class PromisesTest {
             x.setDay(1, 77);
         }
         due("undo of later changes", x.undo(), 1);
+        restoreOverOtherData();
     }
 }

@@ -121,12 +121,14 @@ public final class ReferenceTest {
     private static final class Caller {
         private final Random random;
         private final int scale;
+        private final int lossScale;
         private final boolean tight;
         private String pending = "";
 
         Caller(Random random) {
             this.random = random;
             this.scale = new int[] {5, 30, 1000, 99999}[random.nextInt(4)];
+            this.lossScale = random.nextInt(3) == 0 ? Math.max(2, scale / 8) : scale;
             this.tight = random.nextBoolean();
         }
 
@@ -149,6 +151,14 @@ public final class ReferenceTest {
         }
 
         private int number(int least, int most) {
+            return number(least, most, scale);
+        }
+
+        private int loss(int least) {
+            return number(least, 99999, lossScale);
+        }
+
+        private int number(int least, int most, int scale) {
             int choice = random.nextInt(40);
             if (choice == 0) {
                 return least - 1;
@@ -179,7 +189,7 @@ public final class ReferenceTest {
         }
 
         private int[] cover() {
-            return new int[] {0, number(1, 99999), tight ? number(1, 99999) : Math.max(1, number(1, 99999)),
+            return new int[] {0, number(1, 99999), tight ? number(1, 99999) : Math.min(99999, 8 * number(1, 99999)),
                 number(0, 99999), small(3)};
         }
 
@@ -196,10 +206,10 @@ public final class ReferenceTest {
                 case 1: return layer(x);
                 case 2: return new int[] {2, day()};
                 case 3: case 4: case 5: case 6: case 7:
-                    return new int[] {3, small(s.events.size()), small(s.covers.size()), number(1, 99999)};
+                    return new int[] {3, small(s.events.size()), small(s.covers.size()), loss(1)};
                 case 8: return new int[] {4, small(s.claims.size())};
                 case 9: return new int[] {5, small(s.events.size()), day()};
-                case 10: return new int[] {6, small(3), number(0, 99999)};
+                case 10: return new int[] {6, small(3), loss(0)};
                 case 11: return new int[] {7, random.nextInt(103) - 1};
                 case 12: return new int[] {8, small(s.events.size()), number(0, 999999)};
                 default: return random.nextBoolean() ? new int[] {35, small(3), small(4)}
@@ -258,7 +268,7 @@ public final class ReferenceTest {
                         break;
                     case 1:
                         text.append('c').append(digits(small(x.state.events.size() + 1))).append(',')
-                            .append(digits(small(x.state.covers.size()))).append(',').append(digits(number(1, 99999)));
+                            .append(digits(small(x.state.covers.size()))).append(',').append(digits(loss(1)));
                         break;
                     default:
                         text.append('r').append(digits(small(x.state.events.size() + 1))).append('=')
