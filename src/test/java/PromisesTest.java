@@ -103,17 +103,32 @@ public final class PromisesTest {
         return x;
     }
 
-    /** All data of a desk and what they come to. */
+    /** All data of a desk and what they come to, by few calls, for an object is used for 512 at most. */
     private static String fingerprint(LayeredClaims x) {
         StringBuilder all = new StringBuilder();
-        int[] counts = {x.count(0), x.count(1), x.count(2), x.count(3), x.count(5)};
-        all.append(java.util.Arrays.toString(counts));
+        for (int i = 0; i < x.count(0); i++) {
+            for (int what = 0; what < 4; what++) {
+                all.append(x.cover(i, what)).append(' ');
+            }
+        }
+        for (int i = 0; i < x.count(1); i++) {
+            for (int what = 0; what < 4; what++) {
+                all.append(x.layer(i, what)).append(' ');
+            }
+        }
+        for (int i = 0; i < x.count(2); i++) {
+            all.append(x.event(i, 0)).append(' ').append(x.event(i, 1)).append(' ');
+        }
+        for (int i = 0; i < x.count(3); i++) {
+            for (int what = 0; what < 3; what++) {
+                all.append(x.claim(i, what)).append(' ');
+            }
+        }
+        int[] others = {x.count(0), x.count(1), x.count(2), x.count(3), x.count(5), x.deductible(0), x.deductible(1),
+            x.deductible(2)};
+        all.append(java.util.Arrays.toString(others));
         for (int what = 0; what < 9; what++) {
             all.append(' ').append(x.account(what));
-            for (int i = 0; i < 24; i++) {
-                all.append(' ').append(x.cover(i, what)).append(' ').append(x.layer(i, what)).append(' ')
-                    .append(x.event(i, what)).append(' ').append(x.claim(i, what)).append(' ').append(x.deductible(i));
-            }
         }
         return all.toString();
     }
