@@ -332,6 +332,10 @@ public final class DescriptionBoundariesTest {
         RUNS.due("gross(1, 1)", 0);
         RUNS.make("addClaim(1, 1, 99999)", "addClaim(1, 1, 99999)");
         RUNS.due("gross(1, 1)", 99999);
+        // Each loss is cast, not the sum: 1.5 three times.
+        RUNS.desk("addCover(100, 99999, 0, 0)", "addEvent(150)", "setIndex(100)", "addClaim(0, 0, 1)",
+            "addClaim(0, 0, 1)", "addClaim(0, 0, 1)");
+        RUNS.due("gross(0, 0)", 3);
     }
 
     private static void deductedAmounts() {
@@ -408,6 +412,10 @@ public final class DescriptionBoundariesTest {
         RUNS.due("claim(0, 4)", 1);
         RUNS.due("claim(1, 4)", 1);
         RUNS.due("claim(2, 4)", 8);
+        // 2 by the losses 1 and 4 of the amounts 1 and 3: 0 and 1 with the remainders 2 and 3 of 5.
+        RUNS.desk("addCover(99999, 2, 0, 0)", "addEvent(150)", "setIndex(100)", "addClaim(0, 0, 1)", "addClaim(0, 0, 3)");
+        RUNS.due("claim(0, 4)", 0);
+        RUNS.due("claim(1, 4)", 2);
         RUNS.desk("addCover(99999, 99999, 0, 0)", "addCover(10, 10, 0, 0)", "addEvent(364)", "addEvent(0)",
             "setIndex(100)");
         // Of 99999, two losses of 221297 each; claims of another cover or event between them have no part in it.
@@ -726,6 +734,8 @@ public final class DescriptionBoundariesTest {
         RUNS.due("event(0, 1)", 11);
         RUNS.dueRead("r0=1;r0=2;r0=3;r0=4;r0=5;r0=6;r0=7;r0=8;r0=9;r0=10;r0=00011;", Runs.BAD_VALUE);
         RUNS.due("faultPosition()", 60);
+        RUNS.dueRead("e1;e1;e1;e1;e1;e1;e1;e1;e1;e1;e1;e1;e1;e1;e1;e1;e1;e1;e1;e1;", Runs.BAD_VALUE);
+        RUNS.due("faultPosition()", 60);
         RUNS.dueRead("e1;e1;e1;e1;e1;e1;e1;e1;e1;e1;e1;e1;e1;e1;e1;e1;e1;e1;e1;e1x", Runs.BAD_VALUE);
         RUNS.due("faultPosition()", 59);
         RUNS.dueRead("e1;e1;e1;e1;e1;e1;e1;e1;e1;e1;e1;e1;e1;e1;e1;e1;e1;e1;e1;e01", Runs.STATE);
@@ -931,8 +941,8 @@ public final class DescriptionBoundariesTest {
         RUNS.sentence("The calls addCover, addLayer, addEvent, addClaim, removeClaim, setDay, setDeductible, setIndex, "
             + "setRecovery, read and use that return no error code are changes, also if nothing changes;");
         String[] calls = {"addCover(1, 1, 1, 1)", "addLayer(500, 1, 1, 1)", "addEvent(0)", "addClaim(0, 0, 1)",
-            "removeClaim(0)", "setDay(0, 7)", "setDeductible(0, 3)", "setIndex(2)", "setRecovery(0, 4)", "use(0, 0)",
-            "use(1, 0)", "read()"};
+            "removeClaim(0)", "setDay(0, 7)", "setDeductible(0, 3)", "setIndex(0)", "setIndex(2)", "setRecovery(0, 0)",
+            "setRecovery(0, 4)", "use(0, 0)", "use(1, 0)", "read()"};
         for (String call : calls) {
             RUNS.desk("addCover(9, 9, 9, 0)", "addLayer(10, 9, 9, 0)", "addEvent(7)", "file(0, 0, 0, 0)",
                 "file(1, 0, 1, 0)", "undo()", "undo()", "undo()", "addEvent(7)", "addCover(50, 90, 9, 0)",
