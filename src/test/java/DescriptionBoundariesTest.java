@@ -44,6 +44,7 @@ public final class DescriptionBoundariesTest {
         changesThatAreNone();
         latestChanges();
         traysAndHistory();
+        severalErrorCodes();
         latestCall();
         RUNS.finish();
     }
@@ -248,6 +249,9 @@ public final class DescriptionBoundariesTest {
         RUNS.due("claim(2, 3)", 1);
         RUNS.make("setDay(0, 300)");
         RUNS.due("claim(2, 3)", 2);
+        // 1.0f + 1.18f is less than 2.18f, which 2180.0f / 1000.0f would be.
+        RUNS.make("addClaim(0, 0, 50)", "setDay(0, 354)");
+        RUNS.due("claim(3, 3)", 108);
     }
 
     private static void floatLosses() {
@@ -1029,6 +1033,24 @@ public final class DescriptionBoundariesTest {
         RUNS.due("filed(2, 1)", 0);
         RUNS.due("use(2, 1)", 1);
         RUNS.due("cover(1, 0)", 9);
+    }
+
+    private static void severalErrorCodes() {
+        RUNS.sentence("If several error codes are possible, the one that is mentioned first is returned, unless the order "
+            + "is described.");
+        RUNS.desk("addCover(5, 5, 0, 0)", "addLayer(0, 10, 0, 0)", "file(1, 2, 1, 0)", "addLayer(10, 10, 0, 0)",
+            "addLayer(20, 10, 0, 0)", "addLayer(30, 10, 0, 0)");
+        RUNS.due("addLayer(39, 10, 0, 0)", Runs.STATE);
+        RUNS.due("addLayer(39, 10, 0, 4)", Runs.BAD_VALUE);
+        RUNS.due("use(1, 2)", Runs.STATE);
+        RUNS.due("file(1, 2, 0, 1)", Runs.NO_SUCH_ELEMENT);
+        RUNS.due("file(0, 2, 1, 4)", Runs.NO_SUCH_ELEMENT);
+        RUNS.due("file(0, 4, 2, 4)", Runs.NO_SUCH_ELEMENT);
+        RUNS.due("file(0, 2, 2, 4)", Runs.BAD_VALUE);
+        RUNS.due("event(0, 8)", Runs.NO_SUCH_ELEMENT);
+        RUNS.due("paidIf(0, 365)", Runs.NO_SUCH_ELEMENT);
+        RUNS.due("addClaim(0, 0, 0)", Runs.NO_SUCH_ELEMENT);
+        RUNS.dueFault("e365;", Runs.BAD_VALUE, 5);
     }
 
     private static void latestCall() {

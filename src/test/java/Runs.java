@@ -117,7 +117,7 @@ final class Runs {
         String[] words = inner.isEmpty() ? new String[0] : inner.split(", ");
         Object[] arguments = new Object[words.length];
         for (int i = 0; i < words.length; i++) {
-            arguments[i] = Integer.valueOf(words[i]);
+            arguments[i] = Integer.decode(words[i]);
         }
         calls++;
         if (calls > MOST_CALLS) {
